@@ -661,10 +661,10 @@ public final class WalkTimes {
 
     private static int weightOf(int kind, int figure, int load) {
         switch (kind) {
-            case STILE: return halfUp(load);
+            case STILE: return (load + 1) / 2;
             case ROAD: return 2 * load;
-            case TOLL: return Math.max(1, 2 * load - figure);
-            case GATE: return halfUp(load) + 1;
+            case TOLL: return 2 * load > figure ? 2 * load - figure : 1;
+            case GATE: return (load + 1) / 2 + 1;
             default: return load;
         }
     }
@@ -672,15 +672,11 @@ public final class WalkTimes {
     private static int minutesOf(int kind, int figure, int length) {
         switch (kind) {
             case ROAD:
-            case TOLL: return halfUp(length);
+            case TOLL: return (length + 1) / 2;
             case GATE:
             case FORD: return length + figure;
             default: return length;
         }
-    }
-
-    private static int halfUp(int v) {
-        return (v + 1) / 2;
     }
 
     private static boolean isKind(int kind) {
@@ -1314,7 +1310,7 @@ public final class WalkTimes {
 
         private int draw(int m) {
             seed = seed * 1664525 + 1013904223;
-            int v = (seed & Integer.MAX_VALUE) / 256;
+            int v = (seed & 0x7fffffff) / 256;
             return m <= 0 ? 0 : v % m;
         }
 

@@ -29,6 +29,11 @@ public final class BestAndMissedTest {
         y.points(2);
         y.way(0, 1, 1, 9);
         Due.is("added between two that have one", y.added(0, 1), 1);
+        // From 2 to 3/2 with one of LENGTH 1; one of LENGTH 2 would change nothing.
+        y.length(0, 2);
+        Due.is("added to one of LENGTH 2", y.added(0, 1), 1);
+        y.length(0, 1);
+        Due.is("added to one of LENGTH 1", y.added(0, 1), -9);
         // 0 - 1 - 2 - 3, all 1: TIME 9 from 0 to 3. With 0 - 3: 1/2 (1) + 1/2 (1 + h), from 1 on.
         WalkTimes z = new WalkTimes();
         z.way(0, 1, 1, 1);
@@ -102,6 +107,10 @@ public final class BestAndMissedTest {
         Due.is("bridges(0, 3) in a ring", x.bridges(0, 3), 0);
         x.points(5);
         Due.refuses(x, "bridges(0, 4)", -3, () -> x.bridges(0, 4));
+        WalkTimes y = new WalkTimes();
+        y.way(0, 1, 1, 1);
+        y.way(2, 3, 1, 1);
+        Due.is("bridges(1, 0) of one WAY", y.bridges(1, 0), 0b0001);
     }
 
     private static void farthest() {

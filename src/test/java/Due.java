@@ -12,16 +12,22 @@ final class Due {
     static void is(String call, long got, long want) {
         asked++;
         if (got != want) {
-            wrong++;
-            System.out.println(call + " answered " + got + ", due is " + want);
+            tellWrong(call + " answered " + got + ", due is " + want);
+        }
+    }
+
+    /** Of very many wrong answers the first are enough. */
+    private static void tellWrong(String text) {
+        wrong++;
+        if (wrong <= 50) {
+            System.out.println(text);
         }
     }
 
     static void said(String call, String got, String want) {
         asked++;
         if (!got.equals(want)) {
-            wrong++;
-            System.out.println(call + " answered \"" + got + "\", due is \"" + want + "\"");
+            tellWrong(call + " answered \"" + got + "\", due is \"" + want + "\"");
         }
     }
 

@@ -159,7 +159,9 @@ public final class PointsAndWaysTest {
         Due.is("points(5)", x.points(5), 6);
         Due.said("behind points(5)", Due.state(x),
             "5 3 0 0 9 2 ; 1 2 0 0 2 2 2 2 ; 4 1 0 0 3 3 3 3 ; 0 1 0 0 4 4 4 4 ");
-        Due.is("points(2)", x.points(2), 5);
+        Due.is("points(4)", x.points(4), 5);
+        Due.said("behind points(4)", Due.state(x), "4 2 0 0 6 2 ; 1 2 0 0 2 2 2 2 ; 0 1 0 0 4 4 4 4 ");
+        Due.is("points(2)", x.points(2), 4);
         Due.said("behind points(2)", Due.state(x), "2 1 0 0 4 1 ; 0 1 0 0 4 4 4 4 ");
         Due.is("points(3)", x.points(3), 2);
         Due.is("WAYS stay gone", x.count(1), 1);

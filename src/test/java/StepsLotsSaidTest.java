@@ -23,6 +23,7 @@ public final class StepsLotsSaidTest {
         spread(x, 0, 1, 0, 0.0);
         spread(x, 0, 0, 30, 1.0);
         spread(x, 0, 1, 30, 0.0);
+        spread(x, 2, 2, 29, 1.0);
         x.way(0, 1, 1, 1);
         spread(x, 0, 0, 1, 0.0);
         spread(x, 0, 1, 1, 1.0);
