@@ -5,8 +5,26 @@ final class Due {
     private static final long LONGS = 4000000000000000000L;
     private static int asked = 0;
     private static int wrong = 0;
+    private static String sentence = "";
+    private static int askedAhead = 0;
 
     private Due() {
+    }
+
+    /**
+     * What is asked from here on is asked of these words of the document: of a promise, or of its
+     * Terms (promise 0). SentencesTest looks for the words there.
+     */
+    static void sentence(int promise, String words) {
+        endOfSentence();
+        sentence = (promise == 0 ? "Terms" : "Promise " + promise) + ", \"" + words + "\": ";
+        askedAhead = asked;
+    }
+
+    private static void endOfSentence() {
+        if (!sentence.isEmpty() && asked == askedAhead) {
+            tellWrong("nothing was asked of it");
+        }
     }
 
     static void is(String call, long got, long want) {
@@ -20,7 +38,7 @@ final class Due {
     private static void tellWrong(String text) {
         wrong++;
         if (wrong <= 50) {
-            System.out.println(text);
+            System.out.println(sentence + text);
         }
     }
 
@@ -109,6 +127,7 @@ final class Due {
     }
 
     static void end(String test) {
+        endOfSentence();
         System.out.println(test + ": " + asked + " answers, " + wrong + " not as due");
         if (asked == 0 || wrong != 0) {
             System.exit(1);
