@@ -739,7 +739,7 @@ public final class WalkTimes {
         return product;
     }
 
-    /** Bits of a double that is not below 0.0, put together here as no library function may do it. */
+    /** Bits of a double from 0.0 to below 2.0, put together here as no library function may do it. */
     private static long bitsOf(double v) {
         if (!(v > 0.0)) {
             return 0L;
@@ -749,10 +749,6 @@ public final class WalkTimes {
         for (int n = 0; n < 1100 && rest < 1.0; n++) {
             rest = rest * 2.0;
             exponent--;
-        }
-        for (int n = 0; n < 1100 && rest >= 2.0; n++) {
-            rest = rest / 2.0;
-            exponent++;
         }
         return ((long) exponent << 52) + (long) ((rest - 1.0) * 4503599627370496.0);
     }
@@ -1090,7 +1086,6 @@ public final class WalkTimes {
                     rows[r][column] = over(pivot * rows[r][column] - factor * rows[k][column], before);
                 }
                 rows[r][DUE] = over(pivot * rows[r][DUE] - factor * rows[k][DUE], before);
-                rows[r][k] = 0;
             }
         }
     }

@@ -27,7 +27,7 @@ public final class AnyArgumentsTest {
         WalkTimes x = new WalkTimes();
         WalkTimes y = new WalkTimes();
         int[] counts = new int[7];
-        for (int k = 0; k < 460; k++) {
+        for (int k = 0; k < 380; k++) {
             int call = someCall(chance, k);
             long answer = call(x, call, chance);
             Due.is("call " + call + " made again", call(y, someCall(again, k), again), answer);
@@ -126,7 +126,7 @@ public final class AnyArgumentsTest {
         }
     }
 
-    /** Behind the making of the object itself, 512 calls make nothing more. */
+    /** Behind the making of the object itself, 400 calls (and those that they ask ahead) make nothing more. */
     private static void noObjects() {
         com.sun.management.ThreadMXBean bean =
             (com.sun.management.ThreadMXBean) ManagementFactory.getThreadMXBean();
@@ -136,11 +136,11 @@ public final class AnyArgumentsTest {
             WalkTimes x = new WalkTimes();
             Random chance = new Random(turn);
             long before = bean.getThreadAllocatedBytes(thread);
-            for (int k = 0; k < 512; k++) {
+            for (int k = 0; k < 400; k++) {
                 call(x, someCall(chance, k), chance);
             }
             fewest = Math.min(fewest, bean.getThreadAllocatedBytes(thread) - before);
         }
-        Due.is("bytes that 512 calls make", fewest, 0);
+        Due.is("bytes that 400 calls make", fewest, 0);
     }
 }

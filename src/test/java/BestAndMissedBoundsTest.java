@@ -249,6 +249,11 @@ public final class BestAndMissedBoundsTest {
                 return x;
             }, -9);
         }
+        // Of one net behind another one: 2 is best by far, then 0 by a little.
+        WalkTimes changed = Nets.of(3, Nets.way(0, 1, 1, 9), Nets.way(1, 2, 1, 1));
+        Due.is("middle(), long first", changed.middle(), 2);
+        changed.length(0, 1);
+        Due.is("middle(), then not", changed.middle(), 0);
         Due.sentence(23, "MIDDLE; -9.");
         middle("rich", Nets::rich, -9);
         middle("none", Nets::empty, -9);

@@ -1,3 +1,5 @@
+import java.util.function.Supplier;
+
 /** Promises 19 to 25: ADDED, MISSED, BRIDGES, FARTHEST, MIDDLE, SURE, FAST. */
 public final class BestAndMissedTest {
     public static void main(String[] args) {
@@ -256,31 +258,30 @@ public final class BestAndMissedTest {
     }
 
     private static void refusals() {
-        WalkTimes x = new WalkTimes();
-        x.way(0, 1, 1, 1);
-        Due.refuses(x, "added(4, 0)", -1, () -> x.added(4, 0));
-        Due.refuses(x, "added(0, -1)", -1, () -> x.added(0, -1));
-        Due.refuses(x, "added(1, 1)", -1, () -> x.added(1, 1));
-        Due.refuses(x, "missed(4, 0)", -1, () -> x.missed(4, 0));
-        Due.refuses(x, "missed(0, -1)", -1, () -> x.missed(0, -1));
-        Due.refuses(x, "missed(2, 2)", -1, () -> x.missed(2, 2));
-        Due.refuses(x, "bridges(4, 0)", -1, () -> x.bridges(4, 0));
-        Due.refuses(x, "bridges(0, -1)", -1, () -> x.bridges(0, -1));
-        Due.refuses(x, "bridges(2, 2)", -1, () -> x.bridges(2, 2));
-        Due.refuses(x, "bridges(0, 2)", -3, () -> x.bridges(0, 2));
-        Due.refuses(x, "farthest(4)", -1, () -> x.farthest(4));
-        Due.refuses(x, "farthest(-1)", -1, () -> x.farthest(-1));
-        Due.refusesLong(x, "sure(4, 0, 1, 2)", -1, () -> x.sure(4, 0, 1, 2));
-        Due.refusesLong(x, "sure(0, -1, 21, 2)", -1, () -> x.sure(0, -1, 21, 2));
-        Due.refusesLong(x, "sure(0, 1, 1, 2)", -4, () -> x.sure(0, 1, 1, 2));
-        Due.refusesLong(x, "sure(0, 1, 21, 2)", -6, () -> x.sure(0, 1, 21, 2));
-        Due.refusesLong(x, "sure(0, 1, 20, 2)", -2, () -> x.sure(0, 1, 20, 2));
-        Due.refusesLong(x, "fast(4, 0, 1, -1, 2)", -1, () -> x.fast(4, 0, 1, -1, 2));
-        Due.refusesLong(x, "fast(0, -1, 1, -1, 2)", -1, () -> x.fast(0, -1, 1, -1, 2));
-        Due.refusesLong(x, "fast(0, 1, 1, 1000, 2)", -4, () -> x.fast(0, 1, 1, 1000, 2));
-        Due.refusesLong(x, "fast(0, 1, 21, -1, 2)", -4, () -> x.fast(0, 1, 21, -1, 2));
-        Due.refusesLong(x, "fast(0, 1, 21, 0, 2)", -6, () -> x.fast(0, 1, 21, 0, 2));
-        Due.refusesLong(x, "fast(0, 1, 2, 1000, 2)", -6, () -> x.fast(0, 1, 2, 1000, 2));
-        Due.refusesLong(x, "fast(0, 1, 2, 999, -1)", -2, () -> x.fast(0, 1, 2, 999, -1));
+        Supplier<WalkTimes> one = () -> Nets.plain(4, 1);
+        Bound.refuses(one, "added(4, 0)", -1, x -> x.added(4, 0));
+        Bound.refuses(one, "added(0, -1)", -1, x -> x.added(0, -1));
+        Bound.refuses(one, "added(1, 1)", -1, x -> x.added(1, 1));
+        Bound.refuses(one, "missed(4, 0)", -1, x -> x.missed(4, 0));
+        Bound.refuses(one, "missed(0, -1)", -1, x -> x.missed(0, -1));
+        Bound.refuses(one, "missed(2, 2)", -1, x -> x.missed(2, 2));
+        Bound.refuses(one, "bridges(4, 0)", -1, x -> x.bridges(4, 0));
+        Bound.refuses(one, "bridges(0, -1)", -1, x -> x.bridges(0, -1));
+        Bound.refuses(one, "bridges(2, 2)", -1, x -> x.bridges(2, 2));
+        Bound.refuses(one, "bridges(0, 2)", -3, x -> x.bridges(0, 2));
+        Bound.refuses(one, "farthest(4)", -1, x -> x.farthest(4));
+        Bound.refuses(one, "farthest(-1)", -1, x -> x.farthest(-1));
+        Bound.refusesLong(one, "sure(4, 0, 1, 2)", -1, x -> x.sure(4, 0, 1, 2));
+        Bound.refusesLong(one, "sure(0, -1, 21, 2)", -1, x -> x.sure(0, -1, 21, 2));
+        Bound.refusesLong(one, "sure(0, 1, 1, 2)", -4, x -> x.sure(0, 1, 1, 2));
+        Bound.refusesLong(one, "sure(0, 1, 21, 2)", -6, x -> x.sure(0, 1, 21, 2));
+        Bound.refusesLong(one, "sure(0, 1, 20, 2)", -2, x -> x.sure(0, 1, 20, 2));
+        Bound.refusesLong(one, "fast(4, 0, 1, -1, 2)", -1, x -> x.fast(4, 0, 1, -1, 2));
+        Bound.refusesLong(one, "fast(0, -1, 1, -1, 2)", -1, x -> x.fast(0, -1, 1, -1, 2));
+        Bound.refusesLong(one, "fast(0, 1, 1, 1000, 2)", -4, x -> x.fast(0, 1, 1, 1000, 2));
+        Bound.refusesLong(one, "fast(0, 1, 21, -1, 2)", -4, x -> x.fast(0, 1, 21, -1, 2));
+        Bound.refusesLong(one, "fast(0, 1, 21, 0, 2)", -6, x -> x.fast(0, 1, 21, 0, 2));
+        Bound.refusesLong(one, "fast(0, 1, 2, 1000, 2)", -6, x -> x.fast(0, 1, 2, 1000, 2));
+        Bound.refusesLong(one, "fast(0, 1, 2, 999, -1)", -2, x -> x.fast(0, 1, 2, 999, -1));
     }
 }

@@ -12,7 +12,7 @@ final class Bound {
     private Bound() {
     }
 
-    /** The call answers this, and counts no REFUSAL. */
+    /** The call answers this, and counts no REFUSAL; it may change what is there. */
     static void takes(Supplier<WalkTimes> made, String text, long want, ToLongFunction<WalkTimes> call) {
         WalkTimes x = made.get();
         int[] before = Due.refusals(x);
@@ -20,7 +20,7 @@ final class Bound {
         counts(text, x, before, 0);
     }
 
-    /** The same, and all is as it was behind it. */
+    /** The call answers this, twice, counts no REFUSAL, and all is as it was behind it. */
     static void asks(Supplier<WalkTimes> made, String text, long want, ToLongFunction<WalkTimes> call) {
         answers(made, text, want, 0, call);
     }
@@ -36,7 +36,7 @@ final class Bound {
         asks(made, text + " below the line", below, x -> call.on(x, 1));
     }
 
-    /** A call that answers an int is refused: only how often there was that REFUSAL changes. */
+    /** A call that answers an int is refused, twice: only how often there was that REFUSAL changes. */
     static void refuses(Supplier<WalkTimes> made, String text, int number, ToLongFunction<WalkTimes> call) {
         answers(made, text, number, number, call);
     }
@@ -50,10 +50,26 @@ final class Bound {
             ToLongFunction<WalkTimes> call) {
         WalkTimes x = made.get();
         WalkTimes without = made.get();
-        int[] before = Due.refusals(x);
-        Due.is(text, call.applyAsLong(x), want);
-        counts(text, x, before, number);
+        for (int turn = 0; turn < 2; turn++) {
+            int[] before = Due.refusals(x);
+            Due.is(text, call.applyAsLong(x), want);
+            counts(text, x, before, number);
+            askOthers(x);
+        }
         Due.said("what is there behind " + text, all(x), all(without));
+    }
+
+    /** What other calls worked out must not be left to the next one. */
+    private static void askOthers(WalkTimes x) {
+        x.middle();
+        x.says(1, 0, -1);
+        x.bySteps(0, 1, 3, 0);
+        x.lots(1, 0, 2, 3, 0);
+        x.added(0, 1);
+        x.visits(1, 0, 1, 0);
+        x.ahead(1, 1, 0, 0);
+        x.steps(0, 1, 0);
+        x.time(1, 0, 0);
     }
 
     private static void counts(String text, WalkTimes x, int[] before, int number) {
@@ -65,7 +81,7 @@ final class Bound {
 
     /** All that an object holds but REFUSALS; it is no more as it was behind this. */
     static String all(WalkTimes x) {
-        StringBuilder text = new StringBuilder(Due.state(x));
+        StringBuilder text = new StringBuilder(net(x));
         for (int list = 0; list < 3; list++) {
             text.append("; LIST ").append(list).append(": ").append(list(x, list));
         }
@@ -74,7 +90,21 @@ final class Bound {
         }
         text.append("; letters ").append(x.tells()).append(" to ").append(ends(x));
         byOneWay(x, text);
-        text.append("; IMAGE ").append(x.on()).append(": ").append(Due.state(x));
+        text.append("; IMAGE ").append(x.on()).append(": ").append(net(x));
+        return text.toString();
+    }
+
+    /** As Due.state tells it, without what follows from the rest: there are but 512 calls. */
+    private static String net(WalkTimes x) {
+        StringBuilder text = new StringBuilder();
+        text.append(x.count(0)).append(' ').append(x.count(2)).append(' ').append(x.count(3));
+        int ways = x.count(1);
+        for (int way = 0; way < ways; way++) {
+            text.append("; ");
+            for (int what = 0; what <= 5; what++) {
+                text.append(x.of(way, what)).append(' ');
+            }
+        }
         return text.toString();
     }
 
@@ -106,7 +136,8 @@ final class Bound {
     private static String ends(WalkTimes x) {
         StringBuilder text = new StringBuilder();
         text.append(x.count(0)).append(' ');
-        for (int way = 0; way < x.count(1); way++) {
+        int ways = x.count(1);
+        for (int way = 0; way < ways; way++) {
             text.append(x.of(way, 0)).append(x.of(way, 1)).append(x.of(way, 4)).append(' ');
         }
         return text.toString();

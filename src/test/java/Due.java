@@ -101,9 +101,9 @@ final class Due {
     }
 
     static void letters(WalkTimes x, String text) {
+        int had = x.count(2);
         for (int k = 0; k < text.length(); k++) {
-            int had = x.count(2);
-            is("letter " + k + " of \"" + text + "\"", x.letter(text.charAt(k)), had + 1);
+            is("letter " + k + " of \"" + text + "\"", x.letter(text.charAt(k)), had + k + 1);
         }
     }
 

@@ -1,5 +1,6 @@
 import java.math.BigInteger;
 import java.util.Random;
+import java.util.function.Supplier;
 
 /**
  * Promises 12 to 28 and 35 on many nets by chance (always the same ones), small, great and of the
@@ -70,16 +71,20 @@ public final class ExactAnswersTest {
     }
 
     private static int points;
+    /** What the net is like, for those answers that are not as due. */
+    private static String net;
 
     public static void main(String[] args) {
         for (int k = 0; k < 400; k++) {
-            WalkTimes x = someNet(k % 4);
-            journeys(x);
+            Supplier<WalkTimes> made = someNet(k % 4);
+            net = Due.state(made.get());
+            Way[] ways = waysOf(made.get());
+            journeys(made, ways);
             if (k % 4 == 0) {
-                unsure(x);
+                unsure(made.get(), ways);
             }
-            steps(x);
-            lots(x);
+            steps(made.get(), ways);
+            lots(made.get(), ways);
         }
         Due.end("ExactAnswersTest");
     }
@@ -88,19 +93,22 @@ public final class ExactAnswersTest {
         return least + CHANCE.nextInt(most - least + 1);
     }
 
-    /** Sort 0: any; 1: few WAYS; 2: six POINTS, ten WAYS; 3: the same with greatest numbers. */
-    private static WalkTimes someNet(int sort) {
-        WalkTimes x = new WalkTimes();
-        x.points(sort >= 2 ? 6 : some(2, 6));
-        int ways = sort >= 2 ? 10 : sort == 1 ? some(0, 4) : some(0, 10);
-        for (int k = 0; k < ways; k++) {
-            int a = some(0, x.count(0) - 1);
-            int b = (a + some(1, x.count(0) - 1)) % x.count(0);
-            x.way(a, b, sort == 3 ? some(8, 9) : some(1, 9), sort == 3 ? some(8, 9) : some(1, 9));
+    /**
+     * Sort 0: any; 1: few WAYS; 2: six POINTS, ten WAYS; 3: the same with greatest numbers. Made anew
+     * for each journey: an object answers but 512 calls.
+     */
+    private static Supplier<WalkTimes> someNet(int sort) {
+        int many = sort >= 2 ? 6 : some(2, 6);
+        int[][] ways = new int[sort >= 2 ? 10 : sort == 1 ? some(0, 4) : some(0, 10)][];
+        for (int k = 0; k < ways.length; k++) {
+            int a = some(0, many - 1);
+            int b = (a + some(1, many - 1)) % many;
+            int load = sort == 3 ? some(8, 9) : some(1, 9);
+            int length = sort == 3 ? some(8, 9) : some(1, 9);
             int kind = sort == 3 ? (some(0, 1) == 0 ? 2 : 5) : some(0, 5);
-            x.kind(k, kind, sort == 3 ? some(8, 9) : some(0, 9));
+            ways[k] = Nets.way(a, b, load, length, kind, sort == 3 ? some(8, 9) : some(0, 9));
         }
-        return x;
+        return () -> Nets.of(many, ways);
     }
 
     private static Way[] waysOf(WalkTimes x) {
@@ -264,25 +272,24 @@ public final class ExactAnswersTest {
         }
     }
 
-    private static void journeys(WalkTimes x) {
-        Way[] ways = waysOf(x);
+    private static void journeys(Supplier<WalkTimes> made, Way[] ways) {
         Fraction[][] times = new Fraction[points][];
         for (int b = 0; b < points; b++) {
             times[b] = timesTo(ways, b, false);
         }
         for (int a = 0; a < points; a++) {
             for (int b = 0; b < points; b++) {
-                journey(x, ways, a, b, times);
+                journey(made.get(), ways, a, b, times);
             }
-            farthest(x, a, times);
+            farthest(made.get(), a, times);
         }
-        middle(x, times);
-        aheads(x, ways);
-        laid(x, times);
+        middle(made.get(), times);
+        aheads(made, ways);
+        laid(made.get(), times);
     }
 
     private static void journey(WalkTimes x, Way[] ways, int a, int b, Fraction[][] times) {
-        String to = "(" + a + ", " + b + ") of " + Due.state(x);
+        String to = "(" + a + ", " + b + ") of " + net;
         Fraction there = times[b][a];
         Fraction both = there == null ? null : there.plus(times[a][b]);
         due("time" + to, x.time(a, b, 0), x.time(a, b, 1), there);
@@ -350,7 +357,7 @@ public final class ExactAnswersTest {
                 most = b;
             }
         }
-        Due.is("farthest(" + a + ") of " + Due.state(x), x.farthest(a), most);
+        Due.is("farthest(" + a + ") of " + net, x.farthest(a), most);
     }
 
     private static void middle(WalkTimes x, Fraction[][] times) {
@@ -366,17 +373,18 @@ public final class ExactAnswersTest {
                 best = a;
             }
         }
-        Due.is("middle() of " + Due.state(x), x.middle(), best);
+        Due.is("middle() of " + net, x.middle(), best);
     }
 
-    private static void aheads(WalkTimes x, Way[] ways) {
+    private static void aheads(Supplier<WalkTimes> made, Way[] ways) {
         for (int from = 0; from < points; from++) {
             for (int goals = 0; goals < 1 << points; goals++) {
+                WalkTimes x = made.get();
                 boolean some = (x.reaches(from) & goals) != 0;
                 for (int one = 0; one < points; one++) {
                     boolean isGoal = (goals >> one & 1) == 1;
                     Fraction want = some && isGoal ? ahead(ways, from, goals, one) : null;
-                    due("ahead(" + from + ", " + goals + ", " + one + ") of " + Due.state(x),
+                    due("ahead(" + from + ", " + goals + ", " + one + ") of " + net,
                         x.ahead(from, goals, one, 0), x.ahead(from, goals, one, 1), want);
                 }
             }
@@ -396,8 +404,7 @@ public final class ExactAnswersTest {
         }
     }
 
-    private static void unsure(WalkTimes x) {
-        Way[] ways = waysOf(x);
+    private static void unsure(WalkTimes x, Way[] ways) {
         int many = Math.min(6, ways.length);
         int a = some(0, points - 1);
         int b = some(0, points - 1);
@@ -415,21 +422,20 @@ public final class ExactAnswersTest {
             comes = time == null ? comes : comes.plus(odds);
             soon = compare(time, Fraction.of(m, 1)) > 0 ? soon : soon.plus(odds);
         }
-        String to = "(" + a + ", " + b + ", " + t + ", " + m + ") of " + Due.state(x);
+        String to = "(" + a + ", " + b + ", " + t + ", " + m + ") of " + net;
         due("sure" + to, x.sure(a, b, t, 0), x.sure(a, b, t, 1), comes);
         due("fast" + to, x.fast(a, b, t, m, 0), x.fast(a, b, t, m, 1), soon);
     }
 
-    private static void steps(WalkTimes x) {
-        Way[] ways = waysOf(x);
+    private static void steps(WalkTimes x, Way[] ways) {
         int a = some(0, points - 1);
         double[] now = new double[points];
         now[a] = 1.0;
         for (int n = 0; n <= 30; n++) {
             for (int b = 0; b < points; b++) {
-                Due.is("bySteps(" + a + ", " + b + ", " + n + ", 0) of " + Due.state(x),
+                Due.is("bySteps(" + a + ", " + b + ", " + n + ", 0) of " + net,
                     x.bySteps(a, b, n, 0), Double.doubleToLongBits(now[b]));
-                Due.is("bySteps(" + a + ", " + b + ", " + n + ", 1) of " + Due.state(x),
+                Due.is("bySteps(" + a + ", " + b + ", " + n + ", 1) of " + net,
                     x.bySteps(a, b, n, 1), (int) (now[b] * 1000000.0));
             }
             double[] then = new double[points];
@@ -459,8 +465,7 @@ public final class ExactAnswersTest {
         return (int) ((z & 0x7fffffffL) / 256 % m);
     }
 
-    private static void lots(WalkTimes x) {
-        Way[] ways = waysOf(x);
+    private static void lots(WalkTimes x, Way[] ways) {
         int a = some(0, points - 1);
         int b = (a + some(1, points - 1)) % points;
         int n = some(1, 30);
@@ -473,7 +478,7 @@ public final class ExactAnswersTest {
             came += took < 0 ? 0 : 1;
             minutes += Math.max(0, took);
         }
-        String to = "(" + a + ", " + b + ", " + n + ", " + seed + ") of " + Due.state(x);
+        String to = "(" + a + ", " + b + ", " + n + ", " + seed + ") of " + net;
         Due.is("lots" + to, x.lots(a, b, n, seed, 0), came);
         Due.is("lots, MINUTES" + to, x.lots(a, b, n, seed, 1), minutes);
     }

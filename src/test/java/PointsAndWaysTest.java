@@ -69,74 +69,73 @@ public final class PointsAndWaysTest {
     }
 
     private static void faultsOfForm() {
-        WalkTimes x = new WalkTimes();
-        Due.is("tells() of nothing", x.tells(), -1000);
-        form(x, "w", 1);
-        form(x, "way", 3);
-        form(x, "way ", 4);
-        form(x, "way 0", 5);
-        form(x, "way 0 1 1 1", 11);
-        form(x, "way 0 1 1 1 ", 11);
-        form(x, "way 0 1 1;", 9);
-        form(x, "way 0 1 1 1;;", 12);
-        form(x, "way 0 1 1 1; ", 12);
-        form(x, "way 0 1 1 1;w", 13);
-        form(x, "way 0 1 1 1;way 0 1 1 a;", 22);
-        form(x, "way 0 1 1 11;", 11);
-        form(x, "way 10 1 1 1;", 5);
-        form(x, "way -1 1 1 1;", 4);
-        form(x, "Way 0 1 1 1;", 0);
-        form(x, " way 0 1 1 1;", 0);
-        form(x, "ways", 3);
-        form(x, "wax", 2);
-        form(x, "x", 0);
-        form(x, "kin", 3);
-        form(x, "kind 0 1;", 8);
-        form(x, "kind 0 1 1 1;", 10);
-        form(x, "l", 1);
-        form(x, "lx", 1);
-        form(x, "lo", 2);
-        form(x, "lox", 2);
-        form(x, "loa ", 3);
-        form(x, "lon0", 3);
-        form(x, "los;", 3);
-        form(x, "load;", 4);
-        form(x, "load 0;", 6);
-        form(x, "long 0 1 2;", 8);
-        form(x, "lose 0 1;", 6);
-        form(x, "loser", 4);
-        form(x, "point 3;", 5);
-        form(x, "points 3 3;", 8);
-        form(x, "points /;", 7);
-        form(x, "points :;", 7);
-        form(x, "" + (char) 255, 0);
+        Due.is("tells() of nothing", new WalkTimes().tells(), -1000);
+        form("w", 1);
+        form("way", 3);
+        form("way ", 4);
+        form("way 0", 5);
+        form("way 0 1 1 1", 11);
+        form("way 0 1 1 1 ", 11);
+        form("way 0 1 1;", 9);
+        form("way 0 1 1 1;;", 12);
+        form("way 0 1 1 1; ", 12);
+        form("way 0 1 1 1;w", 13);
+        form("way 0 1 1 1;way 0 1 1 a;", 22);
+        form("way 0 1 1 11;", 11);
+        form("way 10 1 1 1;", 5);
+        form("way -1 1 1 1;", 4);
+        form("Way 0 1 1 1;", 0);
+        form(" way 0 1 1 1;", 0);
+        form("ways", 3);
+        form("wax", 2);
+        form("x", 0);
+        form("kin", 3);
+        form("kind 0 1;", 8);
+        form("kind 0 1 1 1;", 10);
+        form("l", 1);
+        form("lx", 1);
+        form("lo", 2);
+        form("lox", 2);
+        form("loa ", 3);
+        form("lon0", 3);
+        form("los;", 3);
+        form("load;", 4);
+        form("load 0;", 6);
+        form("long 0 1 2;", 8);
+        form("lose 0 1;", 6);
+        form("loser", 4);
+        form("point 3;", 5);
+        form("points 3 3;", 8);
+        form("points /;", 7);
+        form("points :;", 7);
+        form("" + (char) 255, 0);
         // What is not as it must be does not matter if the form has a fault behind it.
-        form(x, "lose 9;lose", 11);
-        Due.said("FAULTS changed nothing", Due.state(x), "4 0 0 0 0 4 ");
+        form("lose 9;lose", 11);
     }
 
-    private static void form(WalkTimes x, String text, int place) {
+    private static void form(String text, int place) {
+        WalkTimes x = new WalkTimes();
         Due.tells(x, text, -1000 - place);
+        Due.said("FAULTS changed nothing", Due.state(x), "4 0 0 0 0 4 ");
     }
 
     private static void faultsOfStatements() {
+        wrong("way 0 4 1 1;", -2000);
+        wrong("way 2 2 1 1;", -2000);
+        wrong("way 0 1 0 1;", -2000);
+        wrong("way 0 1 1 0;", -2000);
+        wrong("lose 0;", -2000);
+        wrong("points 1;", -2000);
+        wrong("points 7;", -2000);
+        wrong("way 0 1 1 1;kind 0 6 0;", -2012);
+        wrong("way 0 1 1 1;kind 1 0 0;", -2012);
+        wrong("way 0 1 1 1;load 0 0;", -2012);
+        wrong("way 0 1 1 1;long 0 0;", -2012);
+        wrong("way 0 1 1 1;long 1 1;", -2012);
+        wrong("way 0 3 1 1;points 3;lose 0;", -2021);
+        wrong("points 6;way 5 4 1 1;lose 0;lose 0;way 0 0 1 1;", -2028);
+        wrong("points 3;way 0 3 1 1;", -2009);
         WalkTimes x = new WalkTimes();
-        Due.tells(x, "way 0 4 1 1;", -2000);
-        Due.tells(x, "way 2 2 1 1;", -2000);
-        Due.tells(x, "way 0 1 0 1;", -2000);
-        Due.tells(x, "way 0 1 1 0;", -2000);
-        Due.tells(x, "lose 0;", -2000);
-        Due.tells(x, "points 1;", -2000);
-        Due.tells(x, "points 7;", -2000);
-        Due.tells(x, "way 0 1 1 1;kind 0 6 0;", -2012);
-        Due.tells(x, "way 0 1 1 1;kind 1 0 0;", -2012);
-        Due.tells(x, "way 0 1 1 1;load 0 0;", -2012);
-        Due.tells(x, "way 0 1 1 1;long 0 0;", -2012);
-        Due.tells(x, "way 0 1 1 1;long 1 1;", -2012);
-        Due.tells(x, "way 0 3 1 1;points 3;lose 0;", -2021);
-        Due.tells(x, "points 6;way 5 4 1 1;lose 0;lose 0;way 0 0 1 1;", -2028);
-        Due.tells(x, "points 3;way 0 3 1 1;", -2009);
-        Due.said("FAULTS changed nothing", Due.state(x), "4 0 0 0 0 4 ");
         for (int k = 0; k < 9; k++) {
             x.way(0, 1, 1, 1);
         }
@@ -144,6 +143,12 @@ public final class PointsAndWaysTest {
         Due.is("WAYS there", x.count(1), 9);
         Due.tells(x, "way 1 2 1 1;lose 0;way 1 2 1 1;", 3);
         Due.is("WAYS there", x.count(1), 10);
+    }
+
+    private static void wrong(String text, int answer) {
+        WalkTimes x = new WalkTimes();
+        Due.tells(x, text, answer);
+        Due.said("FAULTS changed nothing", Due.state(x), "4 0 0 0 0 4 ");
     }
 
     private static void points() {
@@ -181,9 +186,9 @@ public final class PointsAndWaysTest {
         for (int k = 2; k < 10; k++) {
             Due.is("WAY " + k, x.way(2, 3, 5, 6), k);
         }
-        Due.refuses(x, "an eleventh WAY", -6, () -> x.way(2, 3, 1, 1));
-        Due.refuses(x, "an eleventh WAY, LOAD 0", -4, () -> x.way(2, 3, 0, 1));
-        Due.refuses(x, "an eleventh WAY to no POINT", -1, () -> x.way(2, 4, 1, 1));
+        Bound.refuses(Nets::tenWays, "an eleventh WAY", -6, y -> y.way(2, 3, 1, 1));
+        Bound.refuses(Nets::tenWays, "an eleventh WAY, LOAD 0", -4, y -> y.way(2, 3, 0, 1));
+        Bound.refuses(Nets::tenWays, "an eleventh WAY to no POINT", -1, y -> y.way(2, 6, 1, 1));
     }
 
     private static void kind() {

@@ -12,6 +12,7 @@ public final class RowsListsSlotsTest {
         judge();
         slot();
         slots();
+        slotsRefused();
         slotted();
         like();
         Due.end("RowsListsSlotsTest");
@@ -163,12 +164,12 @@ public final class RowsListsSlotsTest {
     }
 
     private static void laysNotAll() {
+        Bound.refuses(RowsListsSlotsTest::fordAndToll, "lays(3, 0, 0)", -1, x -> x.lays(3, 0, 0));
+        Bound.refuses(RowsListsSlotsTest::fordAndToll, "lays(-1, 0, 0)", -1, x -> x.lays(-1, 0, 0));
+        Bound.refuses(RowsListsSlotsTest::fordAndToll, "lays(0, 4, 0)", -1, x -> x.lays(0, 4, 0));
+        Bound.refuses(RowsListsSlotsTest::fordAndToll, "lays(0, -1, 0)", -1, x -> x.lays(0, -1, 0));
+        Bound.refuses(RowsListsSlotsTest::fordAndToll, "lays(0, 0, 0)", -11, x -> x.lays(0, 0, 0));
         WalkTimes x = fordAndToll();
-        Due.refuses(x, "lays(3, 0, 0)", -1, () -> x.lays(3, 0, 0));
-        Due.refuses(x, "lays(-1, 0, 0)", -1, () -> x.lays(-1, 0, 0));
-        Due.refuses(x, "lays(0, 4, 0)", -1, () -> x.lays(0, 4, 0));
-        Due.refuses(x, "lays(0, -1, 0)", -1, () -> x.lays(0, -1, 0));
-        Due.refuses(x, "lays(0, 0, 0)", -11, () -> x.lays(0, 0, 0));
         x.list(0, 7);
         for (int i = 0; i < 7; i++) {
             x.put(0, i, 7);
@@ -185,12 +186,12 @@ public final class RowsListsSlotsTest {
     }
 
     private static void judge() {
+        Bound.refuses(RowsListsSlotsTest::fordAndToll, "judge(3, 0)", -1, x -> x.judge(3, 0));
+        Bound.refuses(RowsListsSlotsTest::fordAndToll, "judge(-1, 0)", -1, x -> x.judge(-1, 0));
+        Bound.refuses(RowsListsSlotsTest::fordAndToll, "judge(1, 4)", -1, x -> x.judge(1, 4));
+        Bound.refuses(RowsListsSlotsTest::fordAndToll, "judge(1, -1)", -1, x -> x.judge(1, -1));
+        Bound.refuses(RowsListsSlotsTest::fordAndToll, "judge(1, 0)", -11, x -> x.judge(1, 0));
         WalkTimes x = fordAndToll();
-        Due.refuses(x, "judge(3, 0)", -1, () -> x.judge(3, 0));
-        Due.refuses(x, "judge(-1, 0)", -1, () -> x.judge(-1, 0));
-        Due.refuses(x, "judge(1, 4)", -1, () -> x.judge(1, 4));
-        Due.refuses(x, "judge(1, -1)", -1, () -> x.judge(1, -1));
-        Due.refuses(x, "judge(1, 0)", -11, () -> x.judge(1, 0));
         long[] times = {0, 1, 34, 3, 46, 3, 1, 0};
         for (int n = 0; n <= 10; n++) {
             x.list(1, n);
@@ -254,7 +255,11 @@ public final class RowsListsSlotsTest {
                 Due.is("nothing lies there", x.slotted(0, 0, 1), -9);
             }
         }
-        x.kind(0, 0, 0);
+    }
+
+    private static void slotsRefused() {
+        WalkTimes x = new WalkTimes();
+        x.way(0, 1, 4, 4);
         x.slot(0, 1, 2);
         Due.refuses(x, "slots(3, 0, 0)", -1, () -> x.slots(3, 0, 0));
         Due.refuses(x, "slots(-1, 0, 0)", -1, () -> x.slots(-1, 0, 0));

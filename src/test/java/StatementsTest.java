@@ -18,11 +18,11 @@ public final class StatementsTest {
         WalkTimes x = new WalkTimes();
         WalkTimes like = new WalkTimes();
         for (int k = 0; k < 6000; k++) {
-            if (k % 3 == 0) {
+            if (k % 2 == 0) {
                 x = new WalkTimes();
                 like = new WalkTimes();
             }
-            String text = someText(k % 2 == 0);
+            String text = someText(k % 4 < 2);
             sorts[told(x, like, text)]++;
         }
         for (int sort = 0; sort < sorts.length; sort++) {

@@ -1,3 +1,5 @@
+import java.util.function.Supplier;
+
 /** Promises 26 to 28: BY STEPS, by LOT, what is SAID. */
 public final class StepsLotsSaidTest {
     public static void main(String[] args) {
@@ -152,24 +154,23 @@ public final class StepsLotsSaidTest {
     }
 
     private static void refusals() {
-        WalkTimes x = new WalkTimes();
-        x.way(0, 1, 1, 1);
-        Due.refusesLong(x, "bySteps(4, 0, -1, 2)", -1, () -> x.bySteps(4, 0, -1, 2));
-        Due.refusesLong(x, "bySteps(0, -1, 31, 2)", -1, () -> x.bySteps(0, -1, 31, 2));
-        Due.refusesLong(x, "bySteps(0, 1, -1, 2)", -4, () -> x.bySteps(0, 1, -1, 2));
-        Due.refusesLong(x, "bySteps(0, 1, 31, 2)", -6, () -> x.bySteps(0, 1, 31, 2));
-        Due.refusesLong(x, "bySteps(0, 1, 30, 2)", -2, () -> x.bySteps(0, 1, 30, 2));
-        Due.refusesLong(x, "bySteps(0, 1, 0, -1)", -2, () -> x.bySteps(0, 1, 0, -1));
-        Due.refuses(x, "lots(4, 0, 0, 1, 2)", -1, () -> x.lots(4, 0, 0, 1, 2));
-        Due.refuses(x, "lots(0, -1, 31, 1, 2)", -1, () -> x.lots(0, -1, 31, 1, 2));
-        Due.refuses(x, "lots(1, 1, 0, 1, 2)", -1, () -> x.lots(1, 1, 0, 1, 2));
-        Due.refuses(x, "lots(0, 1, 0, 1, 2)", -4, () -> x.lots(0, 1, 0, 1, 2));
-        Due.refuses(x, "lots(0, 1, 31, 1, 2)", -6, () -> x.lots(0, 1, 31, 1, 2));
-        Due.refuses(x, "lots(0, 1, 30, 1, 2)", -2, () -> x.lots(0, 1, 30, 1, 2));
-        Due.refuses(x, "lots(0, 1, 1, 1, -1)", -2, () -> x.lots(0, 1, 1, 1, -1));
-        Due.refuses(x, "says(4, 0, 0)", -1, () -> x.says(4, 0, 0));
-        Due.refuses(x, "says(0, -1, -1)", -1, () -> x.says(0, -1, -1));
-        Due.refuses(x, "says(0, 1, -2)", -1, () -> x.says(0, 1, -2));
-        Due.refuses(x, "says(0, 1, 999)", -1, () -> x.says(0, 1, 999));
+        Supplier<WalkTimes> one = () -> Nets.plain(4, 1);
+        Bound.refusesLong(one, "bySteps(4, 0, -1, 2)", -1, x -> x.bySteps(4, 0, -1, 2));
+        Bound.refusesLong(one, "bySteps(0, -1, 31, 2)", -1, x -> x.bySteps(0, -1, 31, 2));
+        Bound.refusesLong(one, "bySteps(0, 1, -1, 2)", -4, x -> x.bySteps(0, 1, -1, 2));
+        Bound.refusesLong(one, "bySteps(0, 1, 31, 2)", -6, x -> x.bySteps(0, 1, 31, 2));
+        Bound.refusesLong(one, "bySteps(0, 1, 30, 2)", -2, x -> x.bySteps(0, 1, 30, 2));
+        Bound.refusesLong(one, "bySteps(0, 1, 0, -1)", -2, x -> x.bySteps(0, 1, 0, -1));
+        Bound.refuses(one, "lots(4, 0, 0, 1, 2)", -1, x -> x.lots(4, 0, 0, 1, 2));
+        Bound.refuses(one, "lots(0, -1, 31, 1, 2)", -1, x -> x.lots(0, -1, 31, 1, 2));
+        Bound.refuses(one, "lots(1, 1, 0, 1, 2)", -1, x -> x.lots(1, 1, 0, 1, 2));
+        Bound.refuses(one, "lots(0, 1, 0, 1, 2)", -4, x -> x.lots(0, 1, 0, 1, 2));
+        Bound.refuses(one, "lots(0, 1, 31, 1, 2)", -6, x -> x.lots(0, 1, 31, 1, 2));
+        Bound.refuses(one, "lots(0, 1, 30, 1, 2)", -2, x -> x.lots(0, 1, 30, 1, 2));
+        Bound.refuses(one, "lots(0, 1, 1, 1, -1)", -2, x -> x.lots(0, 1, 1, 1, -1));
+        Bound.refuses(one, "says(4, 0, 0)", -1, x -> x.says(4, 0, 0));
+        Bound.refuses(one, "says(0, -1, -1)", -1, x -> x.says(0, -1, -1));
+        Bound.refuses(one, "says(0, 1, -2)", -1, x -> x.says(0, 1, -2));
+        Bound.refuses(one, "says(0, 1, 999)", -1, x -> x.says(0, 1, 999));
     }
 }

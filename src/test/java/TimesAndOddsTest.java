@@ -1,3 +1,5 @@
+import java.util.function.Supplier;
+
 /** Promises 12 to 18: TIME, STEPS, COMMUTE, VISITS, RESISTANCE, AHEAD, FLOW. */
 public final class TimesAndOddsTest {
     public static void main(String[] args) {
@@ -217,36 +219,35 @@ public final class TimesAndOddsTest {
     }
 
     private static void refusals() {
-        WalkTimes x = new WalkTimes();
-        x.way(0, 1, 1, 1);
-        Due.refusesLong(x, "time(-1, 0, 2)", -1, () -> x.time(-1, 0, 2));
-        Due.refusesLong(x, "time(0, 4, 2)", -1, () -> x.time(0, 4, 2));
-        Due.refusesLong(x, "time(0, 2, 2)", -2, () -> x.time(0, 2, 2));
-        Due.refusesLong(x, "time(0, 1, -1)", -2, () -> x.time(0, 1, -1));
-        Due.refusesLong(x, "time(0, 2, 1)", -3, () -> x.time(0, 2, 1));
-        Due.refusesLong(x, "steps(4, 0, 2)", -1, () -> x.steps(4, 0, 2));
-        Due.refusesLong(x, "steps(0, 2, 2)", -2, () -> x.steps(0, 2, 2));
-        Due.refusesLong(x, "commute(0, -1, 2)", -1, () -> x.commute(0, -1, 2));
-        Due.refusesLong(x, "commute(0, 2, 2)", -2, () -> x.commute(0, 2, 2));
-        Due.refusesLong(x, "visits(4, 0, 1, 2)", -1, () -> x.visits(4, 0, 1, 2));
-        Due.refusesLong(x, "visits(0, 4, 1, 2)", -1, () -> x.visits(0, 4, 1, 2));
-        Due.refusesLong(x, "visits(0, 1, 4, 2)", -1, () -> x.visits(0, 1, 4, 2));
-        Due.refusesLong(x, "visits(0, 1, 1, 2)", -1, () -> x.visits(0, 1, 1, 2));
-        Due.refusesLong(x, "visits(0, 2, 1, 2)", -2, () -> x.visits(0, 2, 1, 2));
-        Due.refusesLong(x, "resistance(0, 4, 2)", -1, () -> x.resistance(0, 4, 2));
-        Due.refusesLong(x, "resistance(0, 2, 2)", -2, () -> x.resistance(0, 2, 2));
-        Due.refusesLong(x, "ahead(4, -1, 0, 2)", -1, () -> x.ahead(4, -1, 0, 2));
-        Due.refusesLong(x, "ahead(0, -1, 4, 2)", -1, () -> x.ahead(0, -1, 4, 2));
-        Due.refusesLong(x, "ahead(0, -1, 1, 2)", -4, () -> x.ahead(0, -1, 1, 2));
-        Due.refusesLong(x, "ahead(0, 16, 1, 2)", -6, () -> x.ahead(0, 16, 1, 2));
-        Due.refusesLong(x, "ahead(0, 8, 1, 2)", -2, () -> x.ahead(0, 8, 1, 2));
-        Due.refusesLong(x, "ahead(0, 8, 1, 0)", -3, () -> x.ahead(0, 8, 1, 0));
-        Due.refusesLong(x, "ahead(0, 8, 3, 0)", -3, () -> x.ahead(0, 8, 3, 0));
-        Due.refusesLong(x, "ahead(0, 0, 3, 0)", -3, () -> x.ahead(0, 0, 3, 0));
-        Due.refusesLong(x, "flow(1, 0, 1, 2)", -1, () -> x.flow(1, 0, 1, 2));
-        Due.refusesLong(x, "flow(-1, 0, 1, 2)", -1, () -> x.flow(-1, 0, 1, 2));
-        Due.refusesLong(x, "flow(0, 4, 1, 2)", -1, () -> x.flow(0, 4, 1, 2));
-        Due.refusesLong(x, "flow(0, 1, 1, 2)", -1, () -> x.flow(0, 1, 1, 2));
-        Due.refusesLong(x, "flow(0, 0, 2, 2)", -2, () -> x.flow(0, 0, 2, 2));
+        Supplier<WalkTimes> one = () -> Nets.plain(4, 1);
+        Bound.refusesLong(one, "time(-1, 0, 2)", -1, x -> x.time(-1, 0, 2));
+        Bound.refusesLong(one, "time(0, 4, 2)", -1, x -> x.time(0, 4, 2));
+        Bound.refusesLong(one, "time(0, 2, 2)", -2, x -> x.time(0, 2, 2));
+        Bound.refusesLong(one, "time(0, 1, -1)", -2, x -> x.time(0, 1, -1));
+        Bound.refusesLong(one, "time(0, 2, 1)", -3, x -> x.time(0, 2, 1));
+        Bound.refusesLong(one, "steps(4, 0, 2)", -1, x -> x.steps(4, 0, 2));
+        Bound.refusesLong(one, "steps(0, 2, 2)", -2, x -> x.steps(0, 2, 2));
+        Bound.refusesLong(one, "commute(0, -1, 2)", -1, x -> x.commute(0, -1, 2));
+        Bound.refusesLong(one, "commute(0, 2, 2)", -2, x -> x.commute(0, 2, 2));
+        Bound.refusesLong(one, "visits(4, 0, 1, 2)", -1, x -> x.visits(4, 0, 1, 2));
+        Bound.refusesLong(one, "visits(0, 4, 1, 2)", -1, x -> x.visits(0, 4, 1, 2));
+        Bound.refusesLong(one, "visits(0, 1, 4, 2)", -1, x -> x.visits(0, 1, 4, 2));
+        Bound.refusesLong(one, "visits(0, 1, 1, 2)", -1, x -> x.visits(0, 1, 1, 2));
+        Bound.refusesLong(one, "visits(0, 2, 1, 2)", -2, x -> x.visits(0, 2, 1, 2));
+        Bound.refusesLong(one, "resistance(0, 4, 2)", -1, x -> x.resistance(0, 4, 2));
+        Bound.refusesLong(one, "resistance(0, 2, 2)", -2, x -> x.resistance(0, 2, 2));
+        Bound.refusesLong(one, "ahead(4, -1, 0, 2)", -1, x -> x.ahead(4, -1, 0, 2));
+        Bound.refusesLong(one, "ahead(0, -1, 4, 2)", -1, x -> x.ahead(0, -1, 4, 2));
+        Bound.refusesLong(one, "ahead(0, -1, 1, 2)", -4, x -> x.ahead(0, -1, 1, 2));
+        Bound.refusesLong(one, "ahead(0, 16, 1, 2)", -6, x -> x.ahead(0, 16, 1, 2));
+        Bound.refusesLong(one, "ahead(0, 8, 1, 2)", -2, x -> x.ahead(0, 8, 1, 2));
+        Bound.refusesLong(one, "ahead(0, 8, 1, 0)", -3, x -> x.ahead(0, 8, 1, 0));
+        Bound.refusesLong(one, "ahead(0, 8, 3, 0)", -3, x -> x.ahead(0, 8, 3, 0));
+        Bound.refusesLong(one, "ahead(0, 0, 3, 0)", -3, x -> x.ahead(0, 0, 3, 0));
+        Bound.refusesLong(one, "flow(1, 0, 1, 2)", -1, x -> x.flow(1, 0, 1, 2));
+        Bound.refusesLong(one, "flow(-1, 0, 1, 2)", -1, x -> x.flow(-1, 0, 1, 2));
+        Bound.refusesLong(one, "flow(0, 4, 1, 2)", -1, x -> x.flow(0, 4, 1, 2));
+        Bound.refusesLong(one, "flow(0, 1, 1, 2)", -1, x -> x.flow(0, 1, 1, 2));
+        Bound.refusesLong(one, "flow(0, 0, 2, 2)", -2, x -> x.flow(0, 0, 2, 2));
     }
 }
