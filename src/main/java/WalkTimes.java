@@ -970,8 +970,8 @@ public final class WalkTimes {
      * <p>They are solved in whole numbers. What then stands below the line is the sum over all trees
      * that join the POINTS of the products of their WEIGHTS: it is the same whichever POINT of those
      * that REACH one another the end is, so that fractions of several ends may be added as they are.
-     * With 6 POINTS, 11 WAYS, WEIGHTS to 18 and MINUTES to 18 every product on the way fits a long
-     * (it is below 7 * 10 to the 18th).
+     * Every product on the way fits a long: of 6 POINTS and 11 WAYS, each of WEIGHT to 18 and MINUTES
+     * to 5 or of WEIGHT to 9 and MINUTES to 18, it is below 8.2 * 10 to the 18th by Hadamard's bound.
      */
     private static final class Equations {
         private static final int DUE = MOST_POINTS;

@@ -21,6 +21,7 @@ public final class ImageAndCountBoundsTest {
         refusalsOfLongs();
         notCounted();
         firstThatFits();
+        lastCall();
         Due.end("ImageAndCountBoundsTest");
     }
 
@@ -339,5 +340,35 @@ public final class ImageAndCountBoundsTest {
         Bound.refuses(Nets::rich, "slotted(1, 9, 10)", -6, x -> x.slotted(1, 9, 10));
         Bound.refuses(Nets::rich, "slotted(1, 9, 9)", -11, x -> x.slotted(1, 9, 9));
         Bound.refuses(Nets::rich, "slots(1, 9, 4)", -1, x -> x.slots(1, 9, 4));
+    }
+
+    /** The 512th call is answered as the first would be. */
+    private static void lastCall() {
+        Due.sentence(0, "An object is used for at most 512 calls after it has been made; what later calls answer is"
+            + " free.");
+        WalkTimes refused = new WalkTimes();
+        for (int k = 1; k <= 511; k++) {
+            Due.is("lose(0), call " + k, refused.lose(0), -1);
+        }
+        Due.is("count(11), call 512", refused.count(11), 511);
+        WalkTimes asked = Nets.plain(4, 1, 12, 23);
+        for (int k = 5; k <= 512; k++) {
+            int b = 1 + k % 3;
+            Due.is("time(0, " + b + ", 0), call " + k, asked.time(0, b, 0), b * b);
+        }
+        WalkTimes imaged = Nets.plain(4, 1, 12, 23);
+        imaged.image();
+        for (int k = 6; k <= 510; k += 3) {
+            Due.is("points(2), call " + k, imaged.points(2), 4);
+            Due.is("way(0, 1, 9, 9), call " + (k + 1), imaged.way(1, 0, 9, 9), 1);
+            Due.is("on(), call " + (k + 2), imaged.on(), 3);
+        }
+        WalkTimes told = new WalkTimes();
+        for (int turn = 0; turn < 4; turn++) {
+            Nets.letters(told, "points 5;points 4;".repeat(6) + "points 3;lo");
+            Due.is("tells(), call " + (120 * turn + 120), told.tells(), -1119);
+        }
+        Nets.letters(told, "points 5;points 6;points 3;lose");
+        Due.is("tells(), call 512", told.tells(), -1031);
     }
 }

@@ -20,6 +20,12 @@ final class Nets {
         return x;
     }
 
+    /** The same net when one WAY more was there and is gone: nothing of it may be left. */
+    static WalkTimes lost(WalkTimes x) {
+        x.lose(x.way(0, 1, 9, 9));
+        return x;
+    }
+
     static int[] way(int... numbers) {
         return numbers;
     }

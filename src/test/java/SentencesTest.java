@@ -15,6 +15,7 @@ public final class SentencesTest {
     private static final Path DOCUMENT = Path.of("../shared/DOC.md");
     private static final Path TESTS = Path.of("src/test/java");
     private static final Pattern PROMISE = Pattern.compile("(?ms)^## Promise (\\d+): [^\\n]+\\n\\n`[^`]*`: (.*?)(?=^## |\\z)");
+    private static final Pattern USE = Pattern.compile("(?m)^An object is used .*$");
     private static final Pattern TERMS = Pattern.compile("(?ms)^## Terms\\n(.*?)^Ahead of the calls");
     private static final String LITERAL = "\"(?:[^\"\\\\]|\\\\.)*\"";
     private static final Pattern NAMED = Pattern.compile(
@@ -39,12 +40,16 @@ public final class SentencesTest {
         Due.end("SentencesTest");
     }
 
-    /** Promise 0 stands for the Terms; the heads of both parts, "==== I." and "==== II.", say nothing. */
+    /**
+     * Promise 0 stands for how an object is used and for the Terms; the heads of both parts, "==== I."
+     * and "==== II.", say nothing.
+     */
     private static TreeMap<Integer, String> sections(String document) {
         TreeMap<Integer, String> sections = new TreeMap<>();
+        Matcher use = USE.matcher(document);
         Matcher terms = TERMS.matcher(document);
-        if (terms.find()) {
-            sections.put(0, plain(terms.group(1)));
+        if (use.find() && terms.find()) {
+            sections.put(0, plain(use.group() + "\n" + terms.group(1)));
         }
         Matcher promise = PROMISE.matcher(document);
         while (promise.find()) {

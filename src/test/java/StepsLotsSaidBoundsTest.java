@@ -93,6 +93,7 @@ public final class StepsLotsSaidBoundsTest {
             double[] want = steps(n, 0);
             for (int b = 0; b < 4; b++) {
                 spread(StepsLotsSaidBoundsTest::net, 0, b, n, want[b]);
+                spread(() -> Nets.lost(net()), 0, b, n, want[b]);
                 for (int sort = 1; sort <= 4; sort++) {
                     seen[sort] |= Double.doubleToLongBits(steps(n, sort)[b]) != Double.doubleToLongBits(want[b]);
                 }
@@ -269,6 +270,7 @@ public final class StepsLotsSaidBoundsTest {
             int d = draw(9, 0);
             seen[d]++;
             lot(StepsLotsSaidBoundsTest::beside, by(z % 2, 1 - z % 2, 1, z), 1, minutes[d]);
+            lot(() -> Nets.lost(beside()), by(z % 2, 1 - z % 2, 1, z), 1, minutes[d]);
         }
         for (int d = 0; d < 9; d++) {
             Due.is("DRAW " + d + " was seen", seen[d] > 0 ? 1 : 0, 1);

@@ -113,6 +113,22 @@ public final class TimesAndOddsBoundsTest {
         flow(TimesAndOddsBoundsTest::tenBeside, 0, 0, 1, 1, 10);
         flow(TimesAndOddsBoundsTest::tenBeside, 9, 0, 1, -1, 10);
         flow(TimesAndOddsBoundsTest::nineBeside, 0, 0, 1, 1, 9);
+        // One that is gone is told no more.
+        Supplier<WalkTimes> lost = () -> Nets.lost(fork());
+        time(lost, 0, 1, 11, 1);
+        steps(lost, 0, 1, 3, 1);
+        commute(lost, 0, 1, 20, 1);
+        visits(lost, 0, 1, 0, 2, 1);
+        visits(lost, 2, 1, 0, 2, 1);
+        resistance(lost, 0, 1, 1, 1);
+        ahead(lost, 0, 0b0110, 2, 1, 2);
+        flow(lost, 0, 0, 1, 1, 1);
+        Bound.asks(lost, "bridges(0, 1)", 1, x -> x.bridges(0, 1));
+        Bound.asks(lost, "missed(0, 1)", 0, x -> x.missed(0, 1));
+        Bound.asks(lost, "added(0, 1)", 1, x -> x.added(0, 1));
+        Bound.asks(lost, "farthest(0), 11 or 19", 2, x -> x.farthest(0));
+        Bound.asks(lost, "count(4)", 2, x -> x.count(4));
+        Bound.fraction(lost, "sure(0, 1, 2)", 1, 2, (x, part) -> x.sure(0, 1, 2, part));
         // The tenth alone leads on to 2.
         Supplier<WalkTimes> made = () -> {
             WalkTimes x = nineBeside();
